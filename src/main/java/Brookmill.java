@@ -8,7 +8,7 @@ public final class Brookmill {
   private static final int LAST_RULE = 2;
   private static final int CAN_NOT = -9;
   private static final int NONE = -1;
-  // Above every number that is asked for or summed up here.
+  // No number that is asked for or summed up here is above it.
   private static final int BEYOND_ALL = 0x7fffffff;
   // Each filling makes the value greater by 1 at least, and no value is above 8 * 50 + 1.
   private static final int MOST_FILLINGS = 1000;
@@ -31,14 +31,14 @@ public final class Brookmill {
 
   // ==== places and rooms
 
-  public int places(int many) {
+  public int places(int many) throws IllegalArgumentException {
     needWithin(many, FEWEST_PLACES, MOST_PLACES);
     int before = net.many;
     net.begin(many);
     return acted(before);
   }
 
-  public int ends(int source, int goal) {
+  public int ends(int source, int goal) throws IndexOutOfBoundsException, IllegalArgumentException {
     needPair(source, goal);
     int before = net.valueNow();
     net.source = source;
@@ -47,7 +47,8 @@ public final class Brookmill {
     return acted(before);
   }
 
-  public int room(int from, int to, int room) {
+  public int room(int from, int to, int room)
+      throws IndexOutOfBoundsException, IllegalArgumentException {
     needPair(from, to);
     needWithin(room, 0, MOST_ROOM);
     if (net.flows.at(from, to) > room) {
@@ -58,7 +59,8 @@ public final class Brookmill {
     return acted(before);
   }
 
-  public int widen(int from, int to, int by) {
+  public int widen(int from, int to, int by)
+      throws IndexOutOfBoundsException, IllegalArgumentException {
     needPair(from, to);
     needWithin(by, -MOST_ROOM, MOST_ROOM);
     int wide = net.rooms.at(from, to) + by;
@@ -69,7 +71,7 @@ public final class Brookmill {
     return acted(wide);
   }
 
-  public int circle(int room) {
+  public int circle(int room) throws IllegalArgumentException {
     needWithin(room, 0, MOST_ROOM);
     for (int place = 0; place < net.many; place++) {
       if (net.flows.at(place, net.nextInCircle(place)) > room) {
@@ -87,7 +89,7 @@ public final class Brookmill {
     return acted(others);
   }
 
-  public int strew(int seed) {
+  public int strew(int seed) throws IllegalArgumentException {
     needWithin(seed, 0, MOST_SEED);
     net.flows.clear();
     for (int from = 0; from < net.many; from++) {
@@ -104,7 +106,7 @@ public final class Brookmill {
     return acted(net.valueNow());
   }
 
-  public int swap(int one, int other) {
+  public int swap(int one, int other) throws IndexOutOfBoundsException {
     needPlace(one);
     needPlace(other);
     net.exchange(one, other);
@@ -113,19 +115,19 @@ public final class Brookmill {
 
   // ==== flow
 
-  public int step(int rule) {
+  public int step(int rule) throws IllegalArgumentException {
     needWithin(rule, 0, LAST_RULE);
     int before = net.valueNow();
     tracks.fillTimes(net, rule, 1);
     return acted(net.valueNow() - before);
   }
 
-  public int fill(int rule) {
+  public int fill(int rule) throws IllegalArgumentException {
     needWithin(rule, 0, LAST_RULE);
     return acted(tracks.fillTimes(net, rule, MOST_FILLINGS));
   }
 
-  public int send(int over, int many) {
+  public int send(int over, int many) throws IndexOutOfBoundsException, IllegalArgumentException {
     needPlace(over);
     needWithin(many, 0, MOST_ROOM);
     if (over == net.source || over == net.goal) {
@@ -147,7 +149,8 @@ public final class Brookmill {
     return acted(net.valueNow());
   }
 
-  public int round(int one, int other, int third, int many) {
+  public int round(int one, int other, int third, int many)
+      throws IndexOutOfBoundsException, IllegalArgumentException {
     needPlace(one);
     needPlace(other);
     needPlace(third);
@@ -181,7 +184,7 @@ public final class Brookmill {
 
   // ==== what is asked of rooms
 
-  public int told(int what) {
+  public int told(int what) throws IllegalArgumentException {
     needWithin(what, 0, 4);
     switch (what) {
       case 0:
@@ -197,7 +200,8 @@ public final class Brookmill {
     }
   }
 
-  public int pair(int from, int to, int what) {
+  public int pair(int from, int to, int what)
+      throws IndexOutOfBoundsException, IllegalArgumentException {
     needPlace(from);
     needPlace(to);
     needWithin(what, 0, 2);
@@ -214,7 +218,8 @@ public final class Brookmill {
     }
   }
 
-  public int ofPlace(int place, int what) {
+  public int ofPlace(int place, int what)
+      throws IndexOutOfBoundsException, IllegalArgumentException {
     needPlace(place);
     needWithin(what, 0, 3);
     switch (what) {
@@ -229,12 +234,12 @@ public final class Brookmill {
     }
   }
 
-  public String roomText(int place) {
+  public String roomText(int place) throws IndexOutOfBoundsException {
     needPlace(place);
     return rowText(net.rooms, place);
   }
 
-  public int cut(int set) {
+  public int cut(int set) throws IllegalArgumentException {
     needSet(set);
     return Cuts.isCut(net, set) ? Cuts.sumAcross(net, net.rooms, set) : CAN_NOT;
   }
@@ -243,7 +248,7 @@ public final class Brookmill {
     return Cuts.leastRoom(net);
   }
 
-  public boolean isLeast(int set) {
+  public boolean isLeast(int set) throws IllegalArgumentException {
     needSet(set);
     return Cuts.isLeastCut(net, set, Cuts.leastRoom(net));
   }
@@ -252,7 +257,7 @@ public final class Brookmill {
     return Cuts.countOfLeast(net);
   }
 
-  public int nthLeast(int number) {
+  public int nthLeast(int number) throws IllegalArgumentException {
     needWithin(number, 0, BEYOND_ALL);
     return Cuts.leastByNumber(net, number);
   }
@@ -267,7 +272,7 @@ public final class Brookmill {
     return net.valueNow();
   }
 
-  public int most(int rule) {
+  public int most(int rule) throws IllegalArgumentException {
     needWithin(rule, 0, LAST_RULE);
     trial.become(net);
     return mostOfTrial(rule);
@@ -277,7 +282,7 @@ public final class Brookmill {
     return net.valueNow() == most(0);
   }
 
-  public String track(int rule) {
+  public String track(int rule) throws IllegalArgumentException {
     needWithin(rule, 0, LAST_RULE);
     tracks.find(net, rule);
     text.setLength(0);
@@ -285,12 +290,12 @@ public final class Brookmill {
     return text.toString();
   }
 
-  public int layer(int place) {
+  public int layer(int place) throws IndexOutOfBoundsException {
     needPlace(place);
     return tracks.layerOf(net, place);
   }
 
-  public int through(int set) {
+  public int through(int set) throws IllegalArgumentException {
     needSet(set);
     return Cuts.isCut(net, set) ? Cuts.sumAcross(net, net.flows, set) : CAN_NOT;
   }
@@ -312,14 +317,15 @@ public final class Brookmill {
     return text.toString();
   }
 
-  public String flowText(int place) {
+  public String flowText(int place) throws IndexOutOfBoundsException {
     needPlace(place);
     return rowText(net.flows, place);
   }
 
   // ==== what would be
 
-  public int would(int from, int to, int by) {
+  public int would(int from, int to, int by)
+      throws IndexOutOfBoundsException, IllegalArgumentException {
     needPair(from, to);
     needWithin(by, -1, 1);
     int wide = net.rooms.at(from, to) + by;
@@ -331,7 +337,7 @@ public final class Brookmill {
     return mostOfTrial(0);
   }
 
-  public int between(int from, int to) {
+  public int between(int from, int to) throws IndexOutOfBoundsException, IllegalArgumentException {
     needPair(from, to);
     trial.become(net);
     trial.source = from;
@@ -345,7 +351,7 @@ public final class Brookmill {
     return mostOfTrial(0);
   }
 
-  public int apart(int how) {
+  public int apart(int how) throws IllegalArgumentException {
     needWithin(how, 0, 1);
     trial.become(net);
     trial.narrowToOne();
@@ -354,7 +360,7 @@ public final class Brookmill {
 
   // ==== the whole
 
-  public int house(int what) {
+  public int house(int what) throws IllegalArgumentException {
     needWithin(what, 0, 2);
     switch (what) {
       case 0:
@@ -373,9 +379,11 @@ public final class Brookmill {
 
   public boolean isSound() {
     int least = Cuts.leastRoom(net);
-    int most = most(0);
+    trial.become(net);
+    int most = mostOfTrial(0);
+    int mostByFirst = mostOfTrial(1);
     return net.isFlowLet() && net.isKept() && isValueSound(most) && most == least
-        && most(1) == least && areCutsSound(least) && sumOfWays() == net.valueNow();
+        && mostByFirst == least && areCutsSound(least) && sumOfWays() == net.valueNow();
   }
 
   public long digest() {
@@ -775,7 +783,7 @@ public final class Brookmill {
     private final int[] onward = new int[MOST_PLACES];
     private int many;
 
-    /** Fills the track by a rule again and again, till there is none; tells how often. */
+    /** Fills the track by a rule so often, or till there is none; tells how often. */
     int fillTimes(Net net, int rule, int mostTimes) {
       for (int times = 0; times < mostTimes; times++) {
         find(net, rule);
@@ -889,8 +897,8 @@ public final class Brookmill {
     static int sumAcross(Net net, Grid grid, int set) {
       int sum = 0;
       for (int from = 0; from < net.many; from++) {
-        for (int to = 0; to < net.many; to++) {
-          if (holds(set, from) && !holds(set, to)) {
+        for (int to = 0; to < net.many && holds(set, from); to++) {
+          if (!holds(set, to)) {
             sum += grid.at(from, to);
           }
         }
@@ -899,8 +907,9 @@ public final class Brookmill {
     }
 
     static int leastRoom(Net net) {
+      int all = net.allPlaces();
       int least = BEYOND_ALL;
-      for (int set = 0; set <= net.allPlaces(); set++) {
+      for (int set = 0; set <= all; set++) {
         if (isCut(net, set)) {
           least = Math.min(least, sumAcross(net, net.rooms, set));
         }
@@ -913,9 +922,10 @@ public final class Brookmill {
     }
 
     static int countOfLeast(Net net) {
+      int all = net.allPlaces();
       int least = leastRoom(net);
       int count = 0;
-      for (int set = 0; set <= net.allPlaces(); set++) {
+      for (int set = 0; set <= all; set++) {
         if (isLeastCut(net, set, least)) {
           count++;
         }
@@ -924,9 +934,10 @@ public final class Brookmill {
     }
 
     static int leastByNumber(Net net, int number) {
+      int all = net.allPlaces();
       int least = leastRoom(net);
       int before = 0;
-      for (int set = 0; set <= net.allPlaces(); set++) {
+      for (int set = 0; set <= all; set++) {
         if (isLeastCut(net, set, least)) {
           if (before == number) {
             return set;
@@ -939,8 +950,9 @@ public final class Brookmill {
 
     static int nearest(Net net) {
       int least = leastRoom(net);
-      int common = net.allPlaces();
-      for (int set = 0; set <= net.allPlaces(); set++) {
+      int all = net.allPlaces();
+      int common = all;
+      for (int set = 0; set <= all; set++) {
         if (isLeastCut(net, set, least)) {
           common &= set;
         }
@@ -949,9 +961,10 @@ public final class Brookmill {
     }
 
     static int farthest(Net net) {
+      int all = net.allPlaces();
       int least = leastRoom(net);
       int together = 0;
-      for (int set = 0; set <= net.allPlaces(); set++) {
+      for (int set = 0; set <= all; set++) {
         if (isLeastCut(net, set, least)) {
           together |= set;
         }
@@ -960,7 +973,8 @@ public final class Brookmill {
     }
 
     static boolean letEachThrough(Net net, int flow) {
-      for (int set = 0; set <= net.allPlaces(); set++) {
+      int all = net.allPlaces();
+      for (int set = 0; set <= all; set++) {
         if (isCut(net, set) && sumAcross(net, net.flows, set) != flow) {
           return false;
         }

@@ -12,17 +12,18 @@ import java.util.TreeSet;
 
 /** The face is the document's, and the file stays within the rules that a text search can see. */
 public final class FaceTest {
+  // A throws IllegalArgumentException, B IndexOutOfBoundsException.
   private static final String[] FACE = {
-    "about()int", "apart(int)int", "between(int,int)int", "circle(int)int", "cut(int)int",
-    "digest()long", "empty()int", "end(boolean)int", "ends(int,int)int", "fill(int)int",
-    "flowText(int)String", "house(int)int", "isLeast(int)boolean", "isMost()boolean",
-    "isSound()boolean", "knock()int", "layer(int)int", "least()int", "leasts()int",
-    "most(int)int", "nthLeast(int)int", "ofPlace(int,int)int", "pair(int,int,int)int",
-    "parts(boolean)int", "partsText()String", "peel()int", "places(int)int",
-    "room(int,int,int)int", "roomText(int)String", "round(int,int,int,int)int",
-    "send(int,int)int", "step(int)int", "strew(int)int", "swap(int,int)int",
-    "through(int)int", "told(int)int", "track(int)String", "turnRound()int", "value()int",
-    "widen(int,int,int)int", "would(int,int,int)int",
+    "about()int", "apart(int)int A", "between(int,int)int BA", "circle(int)int A",
+    "cut(int)int A", "digest()long", "empty()int", "end(boolean)int", "ends(int,int)int BA",
+    "fill(int)int A", "flowText(int)String B", "house(int)int A", "isLeast(int)boolean A",
+    "isMost()boolean", "isSound()boolean", "knock()int", "layer(int)int B", "least()int",
+    "leasts()int", "most(int)int A", "nthLeast(int)int A", "ofPlace(int,int)int BA",
+    "pair(int,int,int)int BA", "parts(boolean)int", "partsText()String", "peel()int",
+    "places(int)int A", "room(int,int,int)int BA", "roomText(int)String B",
+    "round(int,int,int,int)int BA", "send(int,int)int BA", "step(int)int A", "strew(int)int A",
+    "swap(int,int)int B", "through(int)int A", "told(int)int A", "track(int)String A",
+    "turnRound()int", "value()int", "widen(int,int,int)int BA", "would(int,int,int)int BA",
   };
 
   // What the language's rules shut out and no plain word of this program contains.
@@ -79,8 +80,13 @@ public final class FaceTest {
     for (Class<?> kind : method.getParameterTypes()) {
       kinds.add(kind.getSimpleName());
     }
-    return method.getName() + "(" + String.join(",", kinds) + ")"
-        + method.getReturnType().getSimpleName();
+    StringBuilder thrown = new StringBuilder();
+    for (Class<?> kind : method.getExceptionTypes()) {
+      thrown.append(kind == IndexOutOfBoundsException.class ? "B" : "");
+      thrown.append(kind == IllegalArgumentException.class ? "A" : "");
+    }
+    return (method.getName() + "(" + String.join(",", kinds) + ")"
+        + method.getReturnType().getSimpleName() + " " + thrown).trim();
   }
 
   private static void checkText(Checks checks, List<String> lines) {
