@@ -991,12 +991,13 @@ public final class Brookmill {
 
     /** Tells whether there is one. */
     boolean find(Net net) {
-      if (net.valueNow() > 0) {
-        return walk(net, net.source, net.goal);
+      int value = net.valueNow();
+      if (value > 0) {
+        return walk(net, net.source, net.goal, value);
       }
       for (int place = 0; place < net.many; place++) {
         if (next(net, place) != NONE) {
-          return walk(net, place, NONE);
+          return walk(net, place, NONE, value);
         }
       }
       return false;
@@ -1006,7 +1007,7 @@ public final class Brookmill {
       net.carryAlong(row, -amount);
     }
 
-    private boolean walk(Net net, int start, int stop) {
+    private boolean walk(Net net, int start, int stop, int value) {
       row.clear();
       int been = 0;
       int place = start;
@@ -1014,7 +1015,7 @@ public final class Brookmill {
         row.add(place);
         if (place == stop) {
           isRing = false;
-          amount = Math.min(leastFlow(net), net.valueNow());
+          amount = Math.min(leastFlow(net), value);
           return true;
         }
         if (holds(been, place)) {
