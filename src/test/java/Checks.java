@@ -2,6 +2,11 @@ import java.util.concurrent.Callable;
 
 /** Counts what is not as it should be, and tells it. */
 final class Checks {
+  static final Class<?> BOUNDS = IndexOutOfBoundsException.class;
+  static final Class<?> ARGUMENT = IllegalArgumentException.class;
+  static final int LOWEST = Integer.MIN_VALUE;
+  static final int HIGHEST = Integer.MAX_VALUE;
+
   private int made = 0;
   private int wrong = 0;
   private String about = "";
@@ -51,6 +56,27 @@ final class Checks {
     long before = b.digest();
     same("throws." + exception.getSimpleName(), answer(bad), call);
     same(before, b.digest(), "digest() behind " + call);
+  }
+
+  /** A call with one number that is looked at. */
+  interface Call {
+    Object with(int number) throws Exception;
+  }
+
+  /** A number of lowest to highest: one less, one more and the farthest ones throw. */
+  void bounds(Brookmill b, Class<?> exception, int lowest, int highest, String name, Call call) {
+    for (int bad : new int[] {lowest - 1, highest + 1, LOWEST, HIGHEST}) {
+      fails(b, exception, name + " with " + bad, () -> call.with(bad));
+    }
+    for (int good : new int[] {lowest, highest}) {
+      Object got = answer(() -> call.with(good));
+      same(false, String.valueOf(got).startsWith("throws."), name + " with " + good + " throws");
+    }
+  }
+
+  /** A place: one before the first one, one behind the last one and the farthest ones throw. */
+  void places(Brookmill b, String name, Call call) {
+    bounds(b, BOUNDS, 0, b.told(0) - 1, name, call);
   }
 
   /** Rooms, flows and ends as a text. */

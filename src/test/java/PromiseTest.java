@@ -1,9 +1,9 @@
 /** A test for each promise of the document, by its number: usual inputs, edges, wrong inputs. */
 public final class PromiseTest {
-  private static final Class<?> BOUNDS = IndexOutOfBoundsException.class;
-  private static final Class<?> ARGUMENT = IllegalArgumentException.class;
-  private static final int LOWEST = Integer.MIN_VALUE;
-  private static final int HIGHEST = Integer.MAX_VALUE;
+  private static final Class<?> BOUNDS = Checks.BOUNDS;
+  private static final Class<?> ARGUMENT = Checks.ARGUMENT;
+  private static final int LOWEST = Checks.LOWEST;
+  private static final int HIGHEST = Checks.HIGHEST;
 
   private final Checks c = new Checks();
 
@@ -78,42 +78,6 @@ public final class PromiseTest {
     promise42();
   }
 
-  // ==== nets to look at
-
-  /** Rooms told as from, to, room, and again. */
-  private static Brookmill net(int many, int... rooms) {
-    Brookmill b = new Brookmill();
-    b.places(many);
-    for (int i = 0; i + 2 < rooms.length; i += 3) {
-      b.room(rooms[i], rooms[i + 1], rooms[i + 2]);
-    }
-    return b;
-  }
-
-  /** Four places in which the tracks by the three rules are unlike: 0-1-3, 0-1-2-3, 0-2-3. */
-  private static Brookmill diamond() {
-    return net(4, 0, 1, 6, 0, 2, 5, 1, 2, 4, 1, 3, 3, 2, 3, 9, 2, 1, 2);
-  }
-
-  /** A line of five places with rooms 7, 3, 3, 5: two least cuts, {0, 1} and {0, 1, 2}. */
-  private static Brookmill line() {
-    return net(5, 0, 1, 7, 1, 2, 3, 2, 3, 3, 3, 4, 5);
-  }
-
-  /** Each pair has the same room. */
-  private static Brookmill even(int many, int room) {
-    Brookmill b = new Brookmill();
-    b.places(many);
-    for (int from = 0; from < many; from++) {
-      for (int to = 0; to < many; to++) {
-        if (from != to) {
-          b.room(from, to, room);
-        }
-      }
-    }
-    return b;
-  }
-
   // ==== places and rooms
 
   private void promise1() {
@@ -160,7 +124,7 @@ public final class PromiseTest {
 
   private void promise3() {
     c.about("promise 3");
-    Brookmill b = diamond();
+    Brookmill b = Nets.diamond();
     c.fails(b, BOUNDS, "ends(-1, 2)", () -> b.ends(-1, 2));
     c.fails(b, BOUNDS, "ends(4, 2)", () -> b.ends(4, 2));
     c.fails(b, BOUNDS, "ends(2, -1)", () -> b.ends(2, -1));
@@ -179,7 +143,7 @@ public final class PromiseTest {
 
   private void promise4() {
     c.about("promise 4");
-    Brookmill b = diamond();
+    Brookmill b = Nets.diamond();
     c.fails(b, BOUNDS, "room(-1, 0, 1)", () -> b.room(-1, 0, 1));
     c.fails(b, BOUNDS, "room(0, 4, 1)", () -> b.room(0, 4, 1));
     c.fails(b, BOUNDS, "room(4, 4, 51)", () -> b.room(4, 4, 51));
@@ -201,7 +165,7 @@ public final class PromiseTest {
 
   private void promise5() {
     c.about("promise 5");
-    Brookmill b = diamond();
+    Brookmill b = Nets.diamond();
     c.fails(b, BOUNDS, "widen(4, 0, 1)", () -> b.widen(4, 0, 1));
     c.fails(b, BOUNDS, "widen(0, -1, 1)", () -> b.widen(0, -1, 1));
     c.fails(b, BOUNDS, "widen(-1, -1, 99)", () -> b.widen(-1, -1, 99));
@@ -225,7 +189,7 @@ public final class PromiseTest {
 
   private void promise6() {
     c.about("promise 6");
-    Brookmill b = diamond();
+    Brookmill b = Nets.diamond();
     c.fails(b, ARGUMENT, "circle(-1)", () -> b.circle(-1));
     c.fails(b, ARGUMENT, "circle(51)", () -> b.circle(51));
     c.acts(b, 3, "circle(4)", () -> b.circle(4));
@@ -237,17 +201,17 @@ public final class PromiseTest {
     c.acts(b, 4, "circle(4)", () -> b.circle(4));
     b.turnRound();
     c.acts(b, 1, "circle(0), with flows below 0 alone", () -> b.circle(0));
-    Brookmill first = even(3, 9);
+    Brookmill first = Nets.even(3, 9);
     first.ends(0, 1);
     first.send(0, 4);
     c.refuses(first, "circle(3), the first pair", () -> first.circle(3));
-    Brookmill two = net(2, 0, 1, 5);
+    Brookmill two = Nets.of(2, 0, 1, 5);
     c.acts(two, 1, "circle(5) of two", () -> two.circle(5));
     c.same("2 0 1 | 1:5 /  | 0:5 / ", Checks.picture(two), "all");
     two.turnRound();
     two.send(0, 5);
     c.refuses(two, "circle(4) of two", () -> two.circle(4));
-    Brookmill back = even(3, 5);
+    Brookmill back = Nets.even(3, 5);
     back.ends(2, 0);
     back.send(2, 2);
     c.refuses(back, "circle(1), the last pair", () -> back.circle(1));
@@ -255,7 +219,7 @@ public final class PromiseTest {
 
   private void promise7() {
     c.about("promise 7");
-    Brookmill b = net(3, 0, 1, 9, 2, 0, 50);
+    Brookmill b = Nets.of(3, 0, 1, 9, 2, 0, 50);
     c.fails(b, ARGUMENT, "strew(-1)", () -> b.strew(-1));
     c.fails(b, ARGUMENT, "strew(10000)", () -> b.strew(10000));
     b.send(2, 0);
@@ -287,7 +251,7 @@ public final class PromiseTest {
 
   private void promise8() {
     c.about("promise 8");
-    Brookmill b = diamond();
+    Brookmill b = Nets.diamond();
     b.step(1);
     c.acts(b, 4, "turnRound()", () -> b.turnRound());
     c.same("4 3 0 |  /  | 0:6 2:2 / 0:4 | 0:5 1:4 / 1:4 | 1:3 2:9 / 2:4", tell(b), "all");
@@ -301,7 +265,7 @@ public final class PromiseTest {
 
   private void promise9() {
     c.about("promise 9");
-    Brookmill b = diamond();
+    Brookmill b = Nets.diamond();
     c.fails(b, BOUNDS, "swap(-1, 0)", () -> b.swap(-1, 0));
     c.fails(b, BOUNDS, "swap(0, 4)", () -> b.swap(0, 4));
     c.fails(b, BOUNDS, "swap(4, 4)", () -> b.swap(4, 4));
@@ -321,7 +285,7 @@ public final class PromiseTest {
 
   private void promise10() {
     c.about("promise 10");
-    Brookmill b = diamond();
+    Brookmill b = Nets.diamond();
     c.fails(b, ARGUMENT, "step(-1)", () -> b.step(-1));
     c.fails(b, ARGUMENT, "step(3)", () -> b.step(3));
     c.acts(b, 3, "step(0)", () -> b.step(0));
@@ -340,7 +304,7 @@ public final class PromiseTest {
 
   /** 0-1-2-3 first, so that the other one must take back what flows from 1 to 2. */
   private void promise10TakesBack() {
-    Brookmill b = net(4, 0, 1, 5, 1, 2, 5, 2, 3, 5, 0, 2, 4, 1, 3, 3);
+    Brookmill b = Nets.of(4, 0, 1, 5, 1, 2, 5, 2, 3, 5, 0, 2, 4, 1, 3, 3);
     c.acts(b, 5, "step(1)", () -> b.step(1));
     c.same("0-2-1-3", b.track(0), "track(0)");
     c.acts(b, 3, "step(0), taking back", () -> b.step(0));
@@ -350,7 +314,7 @@ public final class PromiseTest {
 
   private void promise11() {
     c.about("promise 11");
-    Brookmill b = diamond();
+    Brookmill b = Nets.diamond();
     c.fails(b, ARGUMENT, "fill(-1)", () -> b.fill(-1));
     c.fails(b, ARGUMENT, "fill(3)", () -> b.fill(3));
     // 0-1-3:3, 0-2-3:5, 0-1-2-3:3
@@ -374,7 +338,7 @@ public final class PromiseTest {
 
   private void promise12() {
     c.about("promise 12");
-    Brookmill b = diamond();
+    Brookmill b = Nets.diamond();
     c.fails(b, BOUNDS, "send(-1, 1)", () -> b.send(-1, 1));
     c.fails(b, BOUNDS, "send(4, -1)", () -> b.send(4, -1));
     c.fails(b, ARGUMENT, "send(1, -1)", () -> b.send(1, -1));
@@ -401,7 +365,7 @@ public final class PromiseTest {
 
   private void promise13() {
     c.about("promise 13");
-    Brookmill b = net(5, 0, 1, 4, 1, 4, 3, 4, 0, 2, 1, 2, 9, 2, 3, 9, 3, 1, 9);
+    Brookmill b = Nets.of(5, 0, 1, 4, 1, 4, 3, 4, 0, 2, 1, 2, 9, 2, 3, 9, 3, 1, 9);
     c.fails(b, BOUNDS, "round(-1, 0, 1, 1)", () -> b.round(-1, 0, 1, 1));
     c.fails(b, BOUNDS, "round(0, 5, 1, 1)", () -> b.round(0, 5, 1, 1));
     c.fails(b, BOUNDS, "round(0, 0, 5, 51)", () -> b.round(0, 0, 5, 51));
@@ -421,15 +385,15 @@ public final class PromiseTest {
     c.acts(b, 6, "round(3, 1, 2, 9)", () -> b.round(3, 1, 2, 9));
     c.acts(b, 6, "round(2, 1, 0, 0)", () -> b.round(2, 1, 0, 0));
     c.acts(b, 3, "round(0, 4, 1, 2), taking back", () -> b.round(0, 4, 1, 2));
-    Brookmill ones = even(3, 1);
+    Brookmill ones = Nets.even(3, 1);
     c.acts(ones, 3, "round(2, 1, 0, 1)", () -> ones.round(2, 1, 0, 1));
-    Brookmill two = net(2);
+    Brookmill two = Nets.of(2);
     c.fails(two, ARGUMENT, "round(0, 1, 0, 0) of two", () -> two.round(0, 1, 0, 0));
   }
 
   private void promise14() {
     c.about("promise 14");
-    Brookmill b = diamond();
+    Brookmill b = Nets.diamond();
     c.acts(b, 0, "peel() without flow", () -> b.peel());
     b.fill(0);
     c.acts(b, 3, "peel()", () -> b.peel());
@@ -442,7 +406,7 @@ public final class PromiseTest {
   }
 
   private void promise14OfWaysAndRings() {
-    Brookmill b = even(4, 9);
+    Brookmill b = Nets.even(4, 9);
     b.send(0, 2);
     b.round(0, 3, 1, 4);
     // 0-3 carries 6, of which 4 come back by 1: the way takes the value alone
@@ -463,12 +427,12 @@ public final class PromiseTest {
 
   private void promise15() {
     c.about("promise 15");
-    Brookmill b = diamond();
+    Brookmill b = Nets.diamond();
     b.fill(0);
     c.acts(b, 11, "empty()", () -> b.empty());
     c.same("4 0 3 | 1:6 2:5 /  | 2:4 3:3 /  | 1:2 3:9 /  |  / ", tell(b), "all");
     c.acts(b, 0, "empty()", () -> b.empty());
-    Brookmill ring = even(3, 9);
+    Brookmill ring = Nets.even(3, 9);
     ring.round(0, 1, 2, 5);
     c.acts(ring, 0, "empty() of a ring", () -> ring.empty());
     c.same("", ring.partsText(), "partsText()");
@@ -478,7 +442,7 @@ public final class PromiseTest {
 
   private void promise16() {
     c.about("promise 16");
-    Brookmill b = diamond();
+    Brookmill b = Nets.diamond();
     b.ends(2, 1);
     c.fails(b, ARGUMENT, "told(-1)", () -> b.told(-1));
     c.fails(b, ARGUMENT, "told(5)", () -> b.told(5));
@@ -487,17 +451,17 @@ public final class PromiseTest {
     c.asks(b, 1, "told(2)", () -> b.told(2));
     c.asks(b, 6, "told(3)", () -> b.told(3));
     c.asks(b, 29, "told(4)", () -> b.told(4));
-    Brookmill full = even(9, 50);
+    Brookmill full = Nets.even(9, 50);
     c.asks(full, 72, "told(3)", () -> full.told(3));
     c.asks(full, 3600, "told(4)", () -> full.told(4));
-    Brookmill ones = net(3, 0, 1, 1, 2, 0, 1, 2, 1, 1);
+    Brookmill ones = Nets.of(3, 0, 1, 1, 2, 0, 1, 2, 1, 1);
     c.asks(ones, 3, "told(3)", () -> ones.told(3));
     c.asks(ones, 3, "told(4)", () -> ones.told(4));
   }
 
   private void promise17() {
     c.about("promise 17");
-    Brookmill b = diamond();
+    Brookmill b = Nets.diamond();
     b.send(2, 4);
     c.fails(b, BOUNDS, "pair(-1, 0, 0)", () -> b.pair(-1, 0, 0));
     c.fails(b, BOUNDS, "pair(0, 4, 3)", () -> b.pair(0, 4, 3));
@@ -517,7 +481,7 @@ public final class PromiseTest {
 
   private void promise18() {
     c.about("promise 18");
-    Brookmill b = diamond();
+    Brookmill b = Nets.diamond();
     b.send(2, 4);
     b.send(1, 1);
     c.fails(b, BOUNDS, "ofPlace(-1, 0)", () -> b.ofPlace(-1, 0));
@@ -541,7 +505,7 @@ public final class PromiseTest {
 
   private void promise19() {
     c.about("promise 19");
-    Brookmill b = diamond();
+    Brookmill b = Nets.diamond();
     c.fails(b, BOUNDS, "roomText(-1)", () -> b.roomText(-1));
     c.fails(b, BOUNDS, "roomText(4)", () -> b.roomText(4));
     c.asks(b, "1:6 2:5", "roomText(0)", () -> b.roomText(0));
@@ -555,7 +519,7 @@ public final class PromiseTest {
 
   private void promise20() {
     c.about("promise 20");
-    Brookmill b = diamond();
+    Brookmill b = Nets.diamond();
     c.fails(b, ARGUMENT, "cut(-1)", () -> b.cut(-1));
     c.fails(b, ARGUMENT, "cut(16)", () -> b.cut(16));
     c.fails(b, ARGUMENT, "cut(LOWEST)", () -> b.cut(LOWEST));
@@ -569,7 +533,7 @@ public final class PromiseTest {
     c.asks(b, 0, "cut(8)", () -> b.cut(8));
     c.asks(b, 8, "cut(13)", () -> b.cut(13));
     c.asks(b, -9, "cut(10)", () -> b.cut(10));
-    Brookmill nine = even(9, 50);
+    Brookmill nine = Nets.even(9, 50);
     c.asks(nine, 400, "cut(255)", () -> nine.cut(255));
     c.asks(nine, 1000, "cut(31)", () -> nine.cut(31));
     c.asks(nine, -9, "cut(511)", () -> nine.cut(511));
@@ -578,7 +542,7 @@ public final class PromiseTest {
 
   private void promise21And22() {
     c.about("promises 21 and 22");
-    Brookmill b = diamond();
+    Brookmill b = Nets.diamond();
     c.asks(b, 11, "least()", () -> b.least());
     c.asks(b, true, "isLeast(1)", () -> b.isLeast(1));
     c.asks(b, false, "isLeast(3)", () -> b.isLeast(3));
@@ -590,19 +554,19 @@ public final class PromiseTest {
     c.asks(b, true, "isLeast(8)", () -> b.isLeast(8));
     c.asks(b, false, "isLeast(2)", () -> b.isLeast(2));
     c.asks(b, false, "isLeast(15)", () -> b.isLeast(15));
-    Brookmill line = line();
+    Brookmill line = Nets.line();
     c.asks(line, 3, "least()", () -> line.least());
     c.asks(line, true, "isLeast(3)", () -> line.isLeast(3));
     c.asks(line, true, "isLeast(7)", () -> line.isLeast(7));
     c.asks(line, false, "isLeast(15)", () -> line.isLeast(15));
     c.asks(line, false, "isLeast(12), no cut", () -> line.isLeast(12));
-    Brookmill nine = even(9, 50);
+    Brookmill nine = Nets.even(9, 50);
     c.asks(nine, 400, "least()", () -> nine.least());
   }
 
   private void promise23To25() {
     c.about("promises 23 to 25");
-    Brookmill b = line();
+    Brookmill b = Nets.line();
     c.asks(b, 2, "leasts()", () -> b.leasts());
     c.fails(b, ARGUMENT, "nthLeast(-1)", () -> b.nthLeast(-1));
     c.fails(b, ARGUMENT, "nthLeast(LOWEST)", () -> b.nthLeast(LOWEST));
@@ -613,7 +577,7 @@ public final class PromiseTest {
     c.asks(b, 3, "end(false)", () -> b.end(false));
     c.asks(b, 7, "end(true)", () -> b.end(true));
     // two ways of two rooms of 2 each: any of the rooms of either may be cut
-    Brookmill both = net(4, 0, 1, 2, 1, 3, 2, 0, 2, 2, 2, 3, 2);
+    Brookmill both = Nets.of(4, 0, 1, 2, 1, 3, 2, 0, 2, 2, 2, 3, 2);
     c.asks(both, 4, "leasts()", () -> both.leasts());
     int[] due = {1, 3, 5, 7, -1};
     for (int number = 0; number < due.length; number++) {
@@ -622,7 +586,7 @@ public final class PromiseTest {
     }
     c.asks(both, 1, "end(false)", () -> both.end(false));
     c.asks(both, 7, "end(true)", () -> both.end(true));
-    Brookmill none = net(9);
+    Brookmill none = Nets.of(9);
     none.ends(8, 0);
     c.asks(none, 128, "leasts()", () -> none.leasts());
     c.asks(none, 256, "nthLeast(0)", () -> none.nthLeast(0));
@@ -631,7 +595,7 @@ public final class PromiseTest {
     c.asks(none, 256, "end(false)", () -> none.end(false));
     c.asks(none, 510, "end(true)", () -> none.end(true));
     // {0} and {0, 1, 2} let the least through, what is between lets more
-    Brookmill far = net(4, 0, 1, 3, 1, 2, 9, 2, 3, 3);
+    Brookmill far = Nets.of(4, 0, 1, 3, 1, 2, 9, 2, 3, 3);
     c.asks(far, 2, "leasts()", () -> far.leasts());
     c.asks(far, 7, "nthLeast(1)", () -> far.nthLeast(1));
     c.asks(far, 1, "end(false)", () -> far.end(false));
@@ -642,7 +606,7 @@ public final class PromiseTest {
 
   private void promise26() {
     c.about("promise 26");
-    Brookmill b = even(4, 9);
+    Brookmill b = Nets.even(4, 9);
     c.asks(b, 0, "value()", () -> b.value());
     b.send(1, 4);
     c.asks(b, 4, "value()", () -> b.value());
@@ -656,13 +620,13 @@ public final class PromiseTest {
 
   private void promise27() {
     c.about("promise 27");
-    Brookmill b = diamond();
+    Brookmill b = Nets.diamond();
     b.step(1);
     c.fails(b, ARGUMENT, "most(-1)", () -> b.most(-1));
     c.fails(b, ARGUMENT, "most(3)", () -> b.most(3));
-    Brookmill nine = even(9, 50);
+    Brookmill nine = Nets.even(9, 50);
     nine.room(0, 8, 0);
-    Brookmill none = net(9);
+    Brookmill none = Nets.of(9);
     for (int rule = 0; rule <= 2; rule++) {
       int by = rule;
       c.asks(b, 11, "most(" + rule + ")", () -> b.most(by));
@@ -673,7 +637,7 @@ public final class PromiseTest {
 
   private void promise28() {
     c.about("promise 28");
-    Brookmill b = diamond();
+    Brookmill b = Nets.diamond();
     c.asks(b, false, "isMost()", () -> b.isMost());
     b.step(0);
     b.step(0);
@@ -688,13 +652,13 @@ public final class PromiseTest {
 
   private void promise29() {
     c.about("promise 29");
-    Brookmill b = diamond();
+    Brookmill b = Nets.diamond();
     c.fails(b, ARGUMENT, "track(-1)", () -> b.track(-1));
     c.fails(b, ARGUMENT, "track(3)", () -> b.track(3));
     c.asks(b, "0-1-3", "track(0)", () -> b.track(0));
     c.asks(b, "0-1-2-3", "track(1)", () -> b.track(1));
     c.asks(b, "0-2-3", "track(2)", () -> b.track(2));
-    Brookmill all = even(9, 1);
+    Brookmill all = Nets.even(9, 1);
     c.asks(all, "0-8", "track(0)", () -> all.track(0));
     c.asks(all, "0-1-2-3-4-5-6-7-8", "track(1)", () -> all.track(1));
     c.asks(all, "0-8", "track(2)", () -> all.track(2));
@@ -708,13 +672,13 @@ public final class PromiseTest {
     c.asks(all, "2-8-7-6-5-4-3-1-0", "track(2)", () -> all.track(2));
     // 1 leads to 2 and 3 alone, and these only back: no track goes by them
     Brookmill blind =
-        net(6, 0, 1, 1, 1, 2, 1, 2, 3, 1, 3, 1, 1, 3, 0, 1, 0, 4, 1, 4, 1, 1, 4, 5, 1);
+        Nets.of(6, 0, 1, 1, 1, 2, 1, 2, 3, 1, 3, 1, 1, 3, 0, 1, 0, 4, 1, 4, 1, 1, 4, 5, 1);
     for (int rule = 0; rule <= 2; rule++) {
       int by = rule;
       c.asks(blind, "0-4-5", "track(" + rule + ")", () -> blind.track(by));
     }
     // 2 is at hand from 1, but leads on by 1 alone: one must go by 2 first
-    Brookmill late = net(5, 0, 1, 1, 1, 2, 1, 2, 1, 1, 0, 2, 1, 1, 3, 1, 3, 4, 1);
+    Brookmill late = Nets.of(5, 0, 1, 1, 1, 2, 1, 2, 1, 1, 0, 2, 1, 1, 3, 1, 3, 4, 1);
     c.asks(late, "0-1-3-4", "track(1)", () -> late.track(1));
     c.asks(late, "0-2-1-3-4", "track(2)", () -> late.track(2));
     c.asks(late, "0-1-3-4", "track(0)", () -> late.track(0));
@@ -727,7 +691,7 @@ public final class PromiseTest {
 
   private void promise30() {
     c.about("promise 30");
-    Brookmill b = line();
+    Brookmill b = Nets.line();
     c.fails(b, BOUNDS, "layer(-1)", () -> b.layer(-1));
     c.fails(b, BOUNDS, "layer(5)", () -> b.layer(5));
     for (int place = 0; place < 5; place++) {
@@ -741,20 +705,21 @@ public final class PromiseTest {
     c.asks(b, -1, "layer(0)", () -> b.layer(0));
     c.asks(b, 0, "layer(2)", () -> b.layer(2));
     c.asks(b, 2, "layer(4)", () -> b.layer(4));
-    Brookmill past = net(3, 0, 2, 1, 2, 1, 1);
+    Brookmill past = Nets.of(3, 0, 2, 1, 2, 1, 1);
     c.asks(past, 2, "layer(1), past the goal", () -> past.layer(1));
-    Brookmill back = net(4, 0, 1, 5, 1, 2, 5, 2, 3, 5, 0, 2, 4);
+    Brookmill back = Nets.of(4, 0, 1, 5, 1, 2, 5, 2, 3, 5, 0, 2, 4);
     back.step(1);
     c.asks(back, 1, "layer(2)", () -> back.layer(2));
     c.asks(back, 2, "layer(1), against the flow", () -> back.layer(1));
     c.asks(back, -1, "layer(3)", () -> back.layer(3));
-    Brookmill nine = net(9, 0, 7, 1, 7, 6, 1, 6, 5, 1, 5, 4, 1, 4, 3, 1, 3, 2, 1, 2, 1, 1, 1, 8, 1);
+    Brookmill nine =
+        Nets.of(9, 0, 7, 1, 7, 6, 1, 6, 5, 1, 5, 4, 1, 4, 3, 1, 3, 2, 1, 2, 1, 1, 1, 8, 1);
     c.asks(nine, 8, "layer(8)", () -> nine.layer(8));
   }
 
   private void promise31() {
     c.about("promise 31");
-    Brookmill b = diamond();
+    Brookmill b = Nets.diamond();
     b.step(1);
     b.send(2, 5);
     c.fails(b, ARGUMENT, "through(-1)", () -> b.through(-1));
@@ -769,7 +734,7 @@ public final class PromiseTest {
 
   private void promise32() {
     c.about("promise 32");
-    Brookmill b = even(4, 9);
+    Brookmill b = Nets.even(4, 9);
     c.asks(b, 0, "parts(false)", () -> b.parts(false));
     c.asks(b, 0, "parts(true)", () -> b.parts(true));
     b.round(1, 2, 3, 4);
@@ -784,7 +749,7 @@ public final class PromiseTest {
 
   private void promise33() {
     c.about("promise 33");
-    Brookmill b = even(4, 9);
+    Brookmill b = Nets.even(4, 9);
     c.asks(b, "", "partsText()", () -> b.partsText());
     b.round(1, 2, 3, 4);
     c.asks(b, "1-2-3-1:4", "partsText()", () -> b.partsText());
@@ -792,19 +757,19 @@ public final class PromiseTest {
     b.send(1, 1);
     c.asks(b, "0-1-2-3:1 0-3:2 1-2-3-1:3", "partsText()", () -> b.partsText());
     // a ring met on the way to the goal comes first, without the places that lead to it
-    Brookmill met = net(6, 0, 1, 9, 1, 5, 9, 1, 2, 9, 2, 3, 9, 3, 1, 9, 3, 4, 9, 4, 2, 9);
+    Brookmill met = Nets.of(6, 0, 1, 9, 1, 5, 9, 1, 2, 9, 2, 3, 9, 3, 1, 9, 3, 4, 9, 4, 2, 9);
     met.send(1, 5);
     met.round(1, 2, 3, 7);
     c.asks(met, "1-2-3-1:7 0-1-5:5", "partsText()", () -> met.partsText());
     met.round(3, 4, 2, 2);
     c.asks(met, "1-2-3-1:7 0-1-5:5 2-3-4-2:2", "partsText()", () -> met.partsText());
     // a ring back to the source
-    Brookmill back = even(4, 50);
+    Brookmill back = Nets.even(4, 50);
     back.round(0, 1, 2, 20);
     back.send(3, 30);
     c.asks(back, "0-1-2-0:20 0-3:30", "partsText()", () -> back.partsText());
     // the goal's ring is found from the goal on, when the value is used up
-    Brookmill goal = even(3, 50);
+    Brookmill goal = Nets.even(3, 50);
     goal.ends(1, 0);
     goal.send(0, 3);
     goal.round(0, 2, 1, 8);
@@ -813,7 +778,7 @@ public final class PromiseTest {
 
   private void promise34() {
     c.about("promise 34");
-    Brookmill b = diamond();
+    Brookmill b = Nets.diamond();
     c.fails(b, BOUNDS, "flowText(-1)", () -> b.flowText(-1));
     c.fails(b, BOUNDS, "flowText(4)", () -> b.flowText(4));
     c.asks(b, "", "flowText(0)", () -> b.flowText(0));
@@ -828,7 +793,7 @@ public final class PromiseTest {
 
   private void promise35() {
     c.about("promise 35");
-    Brookmill b = diamond();
+    Brookmill b = Nets.diamond();
     b.step(0);
     c.fails(b, BOUNDS, "would(-1, 0, 1)", () -> b.would(-1, 0, 1));
     c.fails(b, BOUNDS, "would(4, 4, 2)", () -> b.would(4, 4, 2));
@@ -843,12 +808,12 @@ public final class PromiseTest {
     c.asks(b, 11, "would(3, 0, 0)", () -> b.would(3, 0, 0));
     c.asks(b, -9, "would(3, 0, -1)", () -> b.would(3, 0, -1));
     c.same(0, b.house(1), "house(1)");
-    Brookmill two = net(2, 0, 1, 50);
+    Brookmill two = Nets.of(2, 0, 1, 50);
     two.fill(0);
     c.asks(two, 51, "would(0, 1, 1)", () -> two.would(0, 1, 1));
     c.asks(two, 49, "would(0, 1, -1), below its flow", () -> two.would(0, 1, -1));
-    c.same(12, diamond().would(0, 1, 1), "would(0, 1, 1), asked at once");
-    c.same(11, diamond().would(0, 1, 0), "would(0, 1, 0), asked at once");
+    c.same(12, Nets.diamond().would(0, 1, 1), "would(0, 1, 1), asked at once");
+    c.same(11, Nets.diamond().would(0, 1, 0), "would(0, 1, 0), asked at once");
     b.room(0, 3, 5);
     c.same(17, b.would(0, 1, 1), "would(0, 1, 1), asked at once");
     two.places(3);
@@ -857,7 +822,7 @@ public final class PromiseTest {
 
   private void promise36() {
     c.about("promise 36");
-    Brookmill b = diamond();
+    Brookmill b = Nets.diamond();
     b.fill(1);
     c.fails(b, BOUNDS, "between(-1, 0)", () -> b.between(-1, 0));
     c.fails(b, BOUNDS, "between(0, 4)", () -> b.between(0, 4));
@@ -869,14 +834,14 @@ public final class PromiseTest {
     c.asks(b, 9, "between(0, 2)", () -> b.between(0, 2));
     c.asks(b, 7, "between(1, 3)", () -> b.between(1, 3));
     c.asks(b, 0, "between(3, 0)", () -> b.between(3, 0));
-    c.same(4, diamond().between(1, 2), "between(1, 2), asked at once");
+    c.same(4, Nets.diamond().between(1, 2), "between(1, 2), asked at once");
     b.room(1, 2, 9);
     c.same(9, b.between(1, 2), "between(1, 2), asked at once");
   }
 
   private void promise37() {
     c.about("promise 37");
-    Brookmill b = diamond();
+    Brookmill b = Nets.diamond();
     c.asks(b, 11, "about()", () -> b.about());
     b.fill(0);
     c.asks(b, 11, "about()", () -> b.about());
@@ -884,22 +849,22 @@ public final class PromiseTest {
     c.asks(b, 2, "about()", () -> b.about());
     b.ends(3, 0);
     c.asks(b, 0, "about()", () -> b.about());
-    c.same(11, diamond().about(), "about(), asked at once");
+    c.same(11, Nets.diamond().about(), "about(), asked at once");
     b.room(3, 0, 4);
     c.same(4, b.about(), "about(), asked at once");
   }
 
   private void promise38() {
     c.about("promise 38");
-    Brookmill b = diamond();
+    Brookmill b = Nets.diamond();
     b.fill(0);
     c.fails(b, ARGUMENT, "apart(-1)", () -> b.apart(-1));
     c.fails(b, ARGUMENT, "apart(2)", () -> b.apart(2));
-    Brookmill line = line();
-    Brookmill nine = even(9, 50);
+    Brookmill line = Nets.line();
+    Brookmill nine = Nets.even(9, 50);
     Brookmill none = new Brookmill();
     // the widest cut of rooms is not that of the fewest: three rooms of 1 against one of 50
-    Brookmill few = net(5, 0, 1, 1, 0, 2, 1, 0, 3, 1, 1, 3, 1, 2, 3, 1, 3, 4, 50);
+    Brookmill few = Nets.of(5, 0, 1, 1, 0, 2, 1, 0, 3, 1, 1, 3, 1, 2, 3, 1, 3, 4, 50);
     for (int how = 0; how <= 1; how++) {
       int by = how;
       c.asks(b, 2, "apart(" + how + ")", () -> b.apart(by));
@@ -908,11 +873,11 @@ public final class PromiseTest {
       c.asks(none, 0, "apart(" + how + ")", () -> none.apart(by));
       c.asks(few, 1, "apart(" + how + ")", () -> few.apart(by));
       // a room alone does not count for the pair turned round
-      c.same(0, net(4, 0, 1, 5, 2, 1, 5, 2, 3, 5).apart(how), "apart(" + how + ") of no way");
-      Brookmill down = net(3, 2, 0, 9, 2, 1, 9, 1, 0, 9);
+      c.same(0, Nets.of(4, 0, 1, 5, 2, 1, 5, 2, 3, 5).apart(how), "apart(" + how + ") of no way");
+      Brookmill down = Nets.of(3, 2, 0, 9, 2, 1, 9, 1, 0, 9);
       down.ends(2, 0);
       c.same(2, down.apart(how), "apart(" + how + ") to place 0, asked at once");
-      c.same(2, diamond().apart(how), "apart(" + how + "), asked at once");
+      c.same(2, Nets.diamond().apart(how), "apart(" + how + "), asked at once");
     }
   }
 
@@ -974,7 +939,7 @@ public final class PromiseTest {
       b.turnRound();
       c.asks(b, true, "isSound()", () -> b.isSound());
     }
-    Brookmill rings = even(6, 50);
+    Brookmill rings = Nets.even(6, 50);
     rings.send(0, 9);
     rings.round(5, 1, 0, 50);
     rings.round(2, 3, 4, 7);
@@ -985,17 +950,17 @@ public final class PromiseTest {
     c.about("promise 42");
     Brookmill fresh = new Brookmill();
     c.same(spelled(fresh), fresh.digest(), "digest() of a new object");
-    Brookmill b = diamond();
+    Brookmill b = Nets.diamond();
     b.fill(1);
     b.room(0, 1, 1);
     b.knock();
     c.same(spelled(b), b.digest(), "digest()");
-    Brookmill rings = even(5, 9);
+    Brookmill rings = Nets.even(5, 9);
     rings.send(1, 3);
     rings.round(2, 3, 4, 4);
     rings.swap(0, 2);
     c.same(spelled(rings), rings.digest(), "digest()");
-    Brookmill two = net(2, 0, 1, 50);
+    Brookmill two = Nets.of(2, 0, 1, 50);
     two.send(0, 50);
     two.room(0, 1, 49);
     two.widen(0, 1, 1);
